@@ -967,15 +967,11 @@ public final class BallotDesk {
         }
 
         int worstAmongWinners(Poll poll, int rule) {
-            int unbeaten = 0;
+            int worst = poll.everyone();
             for (int candidate = 0; candidate < poll.size; candidate++) {
-                for (int other = 0; other < poll.size; other++) {
-                    if (other != candidate && !poll.beats(other, candidate)) {
-                        unbeaten |= 1 << candidate;
-                    }
-                }
+                worst &= poll.beatenBy(candidate) | (1 << candidate);
             }
-            int worst = poll.everyone() - unbeaten;
+            // Two of them would have to beat each other, so there is one at most.
             return poll.firstInTie(worst & rules.winnerSet(poll, rule));
         }
 

@@ -93,6 +93,9 @@ public final class FaceTest {
         for (Class<?> inside : BallotDesk.class.getDeclaredClasses()) {
             Check.due(inside + " is static", Modifier.isStatic(inside.getModifiers()), true);
             Check.due(inside + " is not public", Modifier.isPublic(inside.getModifiers()), false);
+            for (Method method : inside.getDeclaredMethods()) {
+                Check.due(method + " has a name of its own", names.contains(method.getName()), false);
+            }
         }
         Check.due("the class is final", Modifier.isFinal(BallotDesk.class.getModifiers()), true);
         Check.due("the class is public", Modifier.isPublic(BallotDesk.class.getModifiers()), true);

@@ -1,11 +1,12 @@
+import java.util.Arrays;
 import java.util.NoSuchElementException;
+import java.util.function.IntConsumer;
 
 /** The promises one by one, on ballots small enough to count by hand. */
 public final class PromiseTest {
     private static final Class<?> NO_ELEMENT = NoSuchElementException.class;
     private static final Class<?> BAD_ARGUMENT = IllegalArgumentException.class;
     private static final Class<?> BAD_STATE = IllegalStateException.class;
-    private static final int[] EXTREMES = {Integer.MIN_VALUE, Integer.MAX_VALUE};
 
     private PromiseTest() {
     }
@@ -32,6 +33,8 @@ public final class PromiseTest {
         change();
         changed();
         properties();
+        propertyOfRaising();
+        propertyOfJoining();
         propertyOfLeaving();
         witness();
         circle();
@@ -40,24 +43,35 @@ public final class PromiseTest {
         Check.end();
     }
 
+    private static int[] andExtremes(int... wrong) {
+        int[] all = Arrays.copyOf(wrong, wrong.length + 2);
+        all[wrong.length] = Integer.MIN_VALUE;
+        all[wrong.length + 1] = Integer.MAX_VALUE;
+        return all;
+    }
+
+    /** A desk of so many candidates, and types of so many voters each, told as orders one after the other. */
+    private static BallotDesk desk(int n, int[] amounts, int... orders) {
+        BallotDesk desk = new BallotDesk();
+        desk.candidates(n);
+        for (int type = 0; type < amounts.length; type++) {
+            desk.ballot(Check.order(Arrays.copyOfRange(orders, type * n, (type + 1) * n)), amounts[type]);
+        }
+        return desk;
+    }
+
+    private static int[] of(int... amounts) {
+        return amounts;
+    }
+
     /** 0 has the most firsts, 1 beats both others: 4 voters of 0 1 2, 3 of 1 2 0, 2 of 2 1 0. */
     private static BallotDesk spoiled() {
-        BallotDesk desk = new BallotDesk();
-        desk.candidates(3);
-        desk.ballot(Check.order(0, 1, 2), 4);
-        desk.ballot(Check.order(1, 2, 0), 3);
-        desk.ballot(Check.order(2, 1, 0), 2);
-        return desk;
+        return desk(3, of(4, 3, 2), 0, 1, 2, 1, 2, 0, 2, 1, 0);
     }
 
     /** 0 beats 1 by 7 : 5, 1 beats 2 by 8 : 4, 2 beats 0 by 9 : 3. */
     private static BallotDesk round() {
-        BallotDesk desk = new BallotDesk();
-        desk.candidates(3);
-        desk.ballot(Check.order(0, 1, 2), 3);
-        desk.ballot(Check.order(1, 2, 0), 5);
-        desk.ballot(Check.order(2, 0, 1), 4);
-        return desk;
+        return desk(3, of(3, 5, 4), 0, 1, 2, 1, 2, 0, 2, 0, 1);
     }
 
     private static void newObject() {
@@ -81,7 +95,7 @@ public final class PromiseTest {
         desk.tieOrder(Check.order(3, 2, 1, 0));
         desk.agenda(Check.order(2, 3, 1, 0));
         desk.weight(1, 77);
-        for (int n : new int[] {1, 0, -1, 8, Integer.MIN_VALUE, Integer.MAX_VALUE}) {
+        for (int n : andExtremes(1, 0, -1, 8)) {
             Check.refused("candidates(" + n + ")", BAD_ARGUMENT, () -> desk.candidates(n));
         }
         Check.due("a refused candidates() keeps the types", desk.count(1), 1);
@@ -123,7 +137,7 @@ public final class PromiseTest {
         for (int order : none) {
             Check.refused("ballot(" + order + ", 1)", BAD_ARGUMENT, () -> desk.ballot(order, 1));
         }
-        for (int amount : new int[] {-1, 100001, Integer.MIN_VALUE, Integer.MAX_VALUE}) {
+        for (int amount : andExtremes(-1, 100001)) {
             Check.refused("ballot(.., " + amount + ")", BAD_ARGUMENT, () -> desk.ballot(Check.order(0, 1, 2), amount));
         }
         Check.due("no type of a refused ballot()", desk.count(1), 0);
@@ -147,11 +161,11 @@ public final class PromiseTest {
         Check.due("pair(0, 1) thereafter", desk.pair(0, 1), 1);
         Check.due("amount(0, 100000)", desk.amount(0, 100000), 1);
         Check.due("amount(0, 0)", desk.amount(0, 0), 100000);
-        for (int type : new int[] {-1, 3, 20, Integer.MIN_VALUE, Integer.MAX_VALUE}) {
+        for (int type : andExtremes(-1, 3, 20)) {
             Check.refused("amount(" + type + ", 1)", NO_ELEMENT, () -> desk.amount(type, 1));
             Check.refused("amount(" + type + ", -1)", NO_ELEMENT, () -> desk.amount(type, -1));
         }
-        for (int amount : new int[] {-1, 100001, Integer.MIN_VALUE, Integer.MAX_VALUE}) {
+        for (int amount : andExtremes(-1, 100001)) {
             Check.refused("amount(1, " + amount + ")", BAD_ARGUMENT, () -> desk.amount(1, amount));
         }
         Check.due("a refused amount() changes nothing", desk.amount(1, 3), 3);
@@ -159,7 +173,7 @@ public final class PromiseTest {
 
     private static void drop() {
         BallotDesk desk = spoiled();
-        for (int type : new int[] {-1, 3, Integer.MIN_VALUE, Integer.MAX_VALUE}) {
+        for (int type : andExtremes(-1, 3)) {
             Check.refused("drop(" + type + ")", NO_ELEMENT, () -> desk.drop(type));
         }
         Check.due("drop(0)", desk.drop(0), 2);
@@ -173,7 +187,7 @@ public final class PromiseTest {
         Check.refused("drop(0) of none", NO_ELEMENT, () -> desk.drop(0));
     }
 
-    private static void refusesNoOrders(String name, java.util.function.IntConsumer call) {
+    private static void refusesNoOrders(String name, IntConsumer call) {
         int[] none = {
             Check.order(0, 1, 2, 2), Check.order(0, 1, 2), Check.order(0, 1, 2, 4), Check.order(0, 1, 2, 3, 4),
             Check.order(0, 1, 2, 3) | 1 << 12, Check.order(0, 1, 2, 3) | 1 << 31, 0, -1,
@@ -208,11 +222,11 @@ public final class PromiseTest {
         Check.due("points of 0", desk.score(2, 0), 4025);
         Check.due("points of 1", desk.score(2, 1), 3000);
         Check.due("points of 2", desk.score(2, 2), 2020);
-        for (int place : new int[] {-1, 3, 7, Integer.MIN_VALUE, Integer.MAX_VALUE}) {
+        for (int place : andExtremes(-1, 3, 7)) {
             Check.refused("weight(" + place + ", 1)", NO_ELEMENT, () -> desk.weight(place, 1));
             Check.refused("weight(" + place + ", -1)", NO_ELEMENT, () -> desk.weight(place, -1));
         }
-        for (int weight : new int[] {-1, 1001, Integer.MIN_VALUE, Integer.MAX_VALUE}) {
+        for (int weight : andExtremes(-1, 1001)) {
             Check.refused("weight(0, " + weight + ")", BAD_ARGUMENT, () -> desk.weight(0, weight));
         }
         Check.due("a refused weight() changes nothing", desk.weight(0, 1), 1000);
@@ -231,7 +245,7 @@ public final class PromiseTest {
         Check.due("POINTS 10 13 13", circle.winners(2), Check.set(1, 2));
         Check.due("DEFEAT 9 7 8", circle.winners(5), Check.set(1));
         Check.due("WINS 2 2 2", circle.winners(6), Check.set(0, 1, 2));
-        for (int rule : new int[] {-1, 12, Integer.MIN_VALUE, Integer.MAX_VALUE}) {
+        for (int rule : andExtremes(-1, 12)) {
             Check.refused("winners(" + rule + ")", NO_ELEMENT, () -> desk.winners(rule));
         }
         BallotDesk empty = new BallotDesk();
@@ -250,10 +264,7 @@ public final class PromiseTest {
         Check.due("ELIMINATION, 1 or 2 goes first", desk.winners(4), Check.set(1, 2));
         desk.amount(0, 6);
         Check.due("RUNOFF, neither beats the other", desk.winners(3), Check.set(0, 1, 2));
-        BallotDesk four = new BallotDesk();
-        four.ballot(Check.order(0, 3, 1, 2), 7);
-        four.ballot(Check.order(1, 3, 2, 0), 4);
-        four.ballot(Check.order(2, 1, 3, 0), 3);
+        BallotDesk four = desk(4, of(7, 4, 3), 0, 3, 1, 2, 1, 3, 2, 0, 2, 1, 3, 0);
         Check.due("RUNOFF of 0 and 1: 7 to 7", four.winners(3), Check.set(0, 1));
         four.amount(2, 5);
         Check.due("RUNOFF of 0 and 2: 7 to 9", four.winners(3), Check.set(2));
@@ -273,18 +284,11 @@ public final class PromiseTest {
         Check.due("AGENDA: 0 out 1, 2 out 0", circle.winners(11), Check.set(2));
         circle.agenda(Check.order(2, 1, 0));
         Check.due("AGENDA: 1 out 2, 0 out 1", circle.winners(11), Check.set(0));
-        BallotDesk even = new BallotDesk();
-        even.candidates(3);
-        even.ballot(Check.order(0, 1, 2), 1);
-        even.ballot(Check.order(1, 2, 0), 1);
-        even.ballot(Check.order(2, 0, 1), 1);
+        BallotDesk even = desk(3, of(1, 1, 1), 0, 1, 2, 1, 2, 0, 2, 0, 1);
         Check.due("LOCKS by the tie order 0 1 2", even.winners(8), Check.set(0));
         even.tieOrder(Check.order(2, 1, 0));
         Check.due("LOCKS by the tie order 2 1 0: 2 over 0, 1 over 2", even.winners(8), Check.set(1));
-        BallotDesk two = new BallotDesk();
-        two.candidates(2);
-        two.ballot(Check.order(0, 1), 3);
-        two.ballot(Check.order(1, 0), 3);
+        BallotDesk two = desk(2, of(3, 3), 0, 1, 1, 0);
         Check.due("AGENDA, none beats, tie order 0 1", two.winners(11), Check.set(0));
         two.tieOrder(Check.order(1, 0));
         Check.due("AGENDA, none beats, tie order 1 0", two.winners(11), Check.set(1));
@@ -299,7 +303,7 @@ public final class PromiseTest {
         Check.due("winner(2) with 2 ahead in the tie order", desk.winner(2), 2);
         Check.due("winner(0) stays", desk.winner(0), 1);
         Check.due("winner(6) of all", desk.winner(6), 0);
-        for (int rule : new int[] {-1, 12, Integer.MIN_VALUE, Integer.MAX_VALUE}) {
+        for (int rule : andExtremes(-1, 12)) {
             Check.refused("winner(" + rule + ")", NO_ELEMENT, () -> desk.winner(rule));
         }
     }
@@ -320,7 +324,7 @@ public final class PromiseTest {
             Check.refused("score(" + rule + ", -1)", NO_ELEMENT, () -> desk.score(asked, -1));
             Check.refused("score(" + rule + ", 3)", NO_ELEMENT, () -> desk.score(asked, 3));
         }
-        for (int rule : new int[] {-1, 12, Integer.MIN_VALUE, Integer.MAX_VALUE}) {
+        for (int rule : andExtremes(-1, 12)) {
             Check.refused("score(" + rule + ", 0)", NO_ELEMENT, () -> desk.score(rule, 0));
         }
         BallotDesk full = new BallotDesk();
@@ -340,7 +344,7 @@ public final class PromiseTest {
                 Check.due("pair(" + a + ", " + b + ")", desk.pair(a, b), due[a][b]);
             }
         }
-        for (int wrong : new int[] {-1, 3, 7, Integer.MIN_VALUE, Integer.MAX_VALUE}) {
+        for (int wrong : andExtremes(-1, 3, 7)) {
             Check.refused("pair(" + wrong + ", 0)", NO_ELEMENT, () -> desk.pair(wrong, 0));
             Check.refused("pair(0, " + wrong + ")", NO_ELEMENT, () -> desk.pair(0, wrong));
             Check.refused("pair(" + wrong + ", itself)", NO_ELEMENT, () -> desk.pair(wrong, wrong));
@@ -357,7 +361,7 @@ public final class PromiseTest {
         }
         Check.due("none from the one that all beat", spoiled().path(0, 1), 0);
         Check.due("none where none beats", new BallotDesk().path(0, 1), 0);
-        for (int wrong : new int[] {-1, 3, 7, Integer.MIN_VALUE, Integer.MAX_VALUE}) {
+        for (int wrong : andExtremes(-1, 3, 7)) {
             Check.refused("path(" + wrong + ", 0)", NO_ELEMENT, () -> desk.path(wrong, 0));
             Check.refused("path(0, " + wrong + ")", NO_ELEMENT, () -> desk.path(0, wrong));
             Check.refused("path(" + wrong + ", itself)", NO_ELEMENT, () -> desk.path(wrong, wrong));
@@ -385,7 +389,7 @@ public final class PromiseTest {
         Check.due("step(0), 1 behind 2 in the tie order", desk.step(0), 1);
         Check.due("step(1) then", desk.step(1), 0);
         Check.due("step(2) then", desk.step(2), 2);
-        for (int k : new int[] {-1, 3, 4, 7, Integer.MIN_VALUE, Integer.MAX_VALUE}) {
+        for (int k : andExtremes(-1, 3, 4, 7)) {
             Check.refused("step(" + k + ")", NO_ELEMENT, () -> desk.step(k));
         }
         BallotDesk empty = new BallotDesk();
@@ -400,10 +404,7 @@ public final class PromiseTest {
         BallotDesk desk = round();
         Check.due("disagreement(): the circle is cut where 7 voters go", desk.disagreement(), 4 + 3 + 7);
         Check.due("agreed()", desk.agreed(), Check.order(1, 2, 0));
-        BallotDesk even = new BallotDesk();
-        even.candidates(3);
-        even.ballot(Check.order(0, 1, 2), 1);
-        even.ballot(Check.order(0, 2, 1), 1);
+        BallotDesk even = desk(3, of(1, 1), 0, 1, 2, 0, 2, 1);
         Check.due("disagreement() of two", even.disagreement(), 1);
         Check.due("agreed() by the tie order 0 1 2", even.agreed(), Check.order(0, 1, 2));
         even.tieOrder(Check.order(2, 1, 0));
@@ -430,17 +431,21 @@ public final class PromiseTest {
         Check.due("one of them, 1 first in the tie order", desk.change(0, 2, 1), 2);
         Check.due("the ballots stay", desk.winners(0), Check.set(0));
         Check.due("the types stay", desk.count(1), 3);
-        for (int wrong : new int[] {-1, 12, Integer.MIN_VALUE, Integer.MAX_VALUE}) {
+        for (int wrong : andExtremes(-1, 12)) {
             Check.refused("change(" + wrong + ", 0, 1)", NO_ELEMENT, () -> desk.change(wrong, 0, 1));
             Check.refused("change(" + wrong + ", 0, 0)", NO_ELEMENT, () -> desk.change(wrong, 0, 0));
         }
-        for (int wrong : new int[] {-1, 3, Integer.MIN_VALUE, Integer.MAX_VALUE}) {
+        for (int wrong : andExtremes(-1, 3)) {
             Check.refused("change(0, " + wrong + ", 1)", NO_ELEMENT, () -> desk.change(0, wrong, 1));
             Check.refused("change(0, " + wrong + ", 0)", NO_ELEMENT, () -> desk.change(0, wrong, 0));
         }
-        for (int wrong : new int[] {-1, 0, 3, Integer.MIN_VALUE, Integer.MAX_VALUE}) {
+        for (int wrong : andExtremes(-1, 0, 3)) {
             Check.refused("change(0, 2, " + wrong + ")", BAD_ARGUMENT, () -> desk.change(0, 2, wrong));
         }
+        BallotDesk some = desk(3, of(4, 3, 2), 0, 1, 2, 1, 2, 0, 0, 2, 1);
+        Check.due("LASTS 3 2 4", some.winner(1), 1);
+        Check.due("one of four turns, three stay: LASTS 3 3 3", some.change(1, 0, 1), 1);
+        Check.due("by", some.changed(), Check.order(0, 2, 1));
         desk.amount(2, 0);
         Check.refused("change() of a type without voters", BAD_ARGUMENT, () -> desk.change(0, 2, 1));
         changeOfTwentyTypes();
@@ -471,15 +476,19 @@ public final class PromiseTest {
         Check.due("changed() after other calls", desk.changed(), Check.order(1, 0, 2));
         desk.change(0, 0, 1);
         Check.due("changed() after one that found none", desk.changed(), BallotDesk.NONE);
-        BallotDesk places = new BallotDesk();
-        places.candidates(3);
+        BallotDesk places = desk(3, of(3), 0, 1, 2);
+        places.weight(0, 0);
         places.weight(1, 2);
         places.weight(2, 2);
-        places.weight(0, 0);
-        places.ballot(Check.order(0, 1, 2), 3);
         Check.due("POINTS against those at place 0", places.winner(2), 1);
         Check.due("a better one", places.change(2, 0, 3), 1);
         Check.due("the least order that does not have 0 first", places.changed(), Check.order(1, 0, 2));
+        BallotDesk better = desk(4, of(1), 3, 2, 0, 1);
+        better.weight(0, 0);
+        better.weight(1, 0);
+        better.weight(2, 10);
+        Check.due("0 1 2 3 would make 2 win, 0 1 3 2 makes 3 win", better.change(2, 0, 1), 1);
+        Check.due("by the latter", better.changed(), Check.order(0, 1, 3, 2));
     }
 
     private static void properties() {
@@ -490,62 +499,85 @@ public final class PromiseTest {
             keeps(desk, rule, 0, BallotDesk.NONE);
             keeps(desk, rule, 1, BallotDesk.NONE);
         }
-        BallotDesk raised = new BallotDesk();
-        raised.candidates(3);
-        raised.ballot(Check.order(0, 1, 2), 39);
-        raised.ballot(Check.order(1, 2, 0), 25);
-        raised.ballot(Check.order(1, 0, 2), 10);
-        raised.ballot(Check.order(2, 0, 1), 26);
-        Check.due("0 wins by elimination", raised.winner(4), 0);
-        keeps(raised, 4, 2, 2);
-        keeps(raised, 3, 2, 2);
-        keeps(raised, 0, 2, BallotDesk.NONE);
-        keeps(raised, 4, 3, BallotDesk.NONE);
-        BallotDesk joined = new BallotDesk();
-        joined.candidates(3);
-        joined.weight(0, 0);
-        joined.weight(1, 10);
-        joined.ballot(Check.order(1, 0, 2), 5);
-        joined.ballot(Check.order(0, 1, 2), 5);
-        keeps(joined, 2, 3, 1);
-        joined.amount(1, 0);
-        keeps(joined, 2, 3, BallotDesk.NONE);
-        joined.amount(0, 1);
-        joined.tieOrder(Check.order(1, 0, 2));
-        keeps(joined, 2, 3, 1);
-        keeps(joined, 2, 2, 0);
-        for (int wrong : new int[] {-1, 12, Integer.MIN_VALUE, Integer.MAX_VALUE}) {
+        BallotDesk beside = desk(3, of(2, 2, 1), 0, 1, 2, 1, 0, 2, 2, 0, 1);
+        Check.due("0 beats both, 1 has as many firsts", beside.winners(0), Check.set(0, 1));
+        keeps(beside, 0, 0, 0);
+        BallotDesk behind = desk(3, of(2, 2, 1), 0, 1, 2, 2, 0, 1, 1, 0, 2);
+        Check.due("both beat 2, who has as many firsts as 0", behind.winners(0), Check.set(0, 2));
+        keeps(behind, 0, 1, 2);
+        for (int wrong : andExtremes(-1, 12)) {
             Check.refused("property(" + wrong + ", 0)", NO_ELEMENT, () -> desk.property(wrong, 0));
         }
-        for (int wrong : new int[] {-1, 5, Integer.MIN_VALUE, Integer.MAX_VALUE}) {
+        for (int wrong : andExtremes(-1, 5)) {
             Check.refused("property(0, " + wrong + ")", NO_ELEMENT, () -> desk.property(0, wrong));
         }
+    }
+
+    private static void propertyOfRaising() {
+        BallotDesk desk = desk(3, of(39, 25, 10, 26), 0, 1, 2, 1, 2, 0, 1, 0, 2, 2, 0, 1);
+        Check.due("0 wins by elimination", desk.winner(4), 0);
+        keeps(desk, 4, 2, 2);
+        keeps(desk, 3, 2, 2);
+        keeps(desk, 0, 2, BallotDesk.NONE);
+        keeps(desk, 4, 3, BallotDesk.NONE);
+        BallotDesk second = placeOneCounts(1, 1, 0, 2);
+        keeps(second, 2, 2, 0);
+    }
+
+    /** Ten points for place 1, none for the others: one gains by what should harm. */
+    private static BallotDesk placeOneCounts(int amount, int... order) {
+        BallotDesk desk = desk(3, of(amount), order);
+        desk.weight(0, 0);
+        desk.weight(1, 10);
+        return desk;
+    }
+
+    private static void propertyOfJoining() {
+        BallotDesk desk = placeOneCounts(5, 1, 0, 2);
+        desk.ballot(Check.order(0, 1, 2), 5);
+        keeps(desk, 2, 3, 1);
+        desk.amount(1, 0);
+        keeps(desk, 2, 3, BallotDesk.NONE);
+        desk.amount(0, 1);
+        desk.tieOrder(Check.order(1, 0, 2));
+        keeps(desk, 2, 3, 1);
+        BallotDesk twice = placeOneCounts(3, 1, 0, 2);
+        twice.ballot(Check.order(0, 1, 2), 1);
+        twice.ballot(Check.order(0, 1, 2), 1);
+        keeps(twice, 2, 3, BallotDesk.NONE);
+        BallotDesk level = desk(3, of(4, 4), 0, 1, 2, 1, 2, 0);
+        Check.due("0 by the tie order alone", level.winners(0), Check.set(0, 1));
+        keeps(level, 0, 3, BallotDesk.NONE);
     }
 
     private static void propertyOfLeaving() {
         BallotDesk desk = spoiled();
         keeps(desk, 0, 4, 1);
         keeps(desk, 4, 4, BallotDesk.NONE);
-        BallotDesk two = new BallotDesk();
-        two.candidates(2);
-        two.ballot(Check.order(1, 0), 1);
+        BallotDesk two = desk(2, of(1), 1, 0);
         for (int rule = 0; rule < 12; rule++) {
             keeps(two, rule, 4, BallotDesk.NONE);
         }
         BallotDesk circle = round();
         Check.due("the agenda leaves 2", circle.winner(11), 2);
         keeps(circle, 11, 4, 0);
-        BallotDesk weighed = new BallotDesk();
-        weighed.candidates(3);
+        BallotDesk weighed = desk(3, of(2, 1), 0, 1, 2, 1, 2, 0);
         weighed.weight(2, 1000);
-        weighed.ballot(Check.order(0, 1, 2), 2);
-        weighed.ballot(Check.order(1, 2, 0), 1);
         Check.due("POINTS 1004 4 2001", weighed.winner(2), 2);
         keeps(weighed, 2, 4, 0);
-        BallotDesk even = new BallotDesk();
-        even.candidates(3);
-        Check.due("all win without voters", even.winners(0), 7);
-        keeps(even, 0, 4, BallotDesk.NONE);
+        BallotDesk level = desk(3, of(4, 4, 1), 0, 1, 2, 1, 2, 0, 2, 0, 1);
+        Check.due("1 wins too and is not left out", level.winners(0), Check.set(0, 1));
+        keeps(level, 0, 4, BallotDesk.NONE);
+        BallotDesk tied = desk(3, of(2, 3, 1), 0, 1, 2, 1, 0, 2, 2, 0, 1);
+        tied.tieOrder(Check.order(1, 0, 2));
+        keeps(tied, 0, 4, BallotDesk.NONE);
+        tied.tieOrder(Check.order(2, 0, 1));
+        keeps(tied, 0, 4, 2);
+        BallotDesk turned = desk(4, of(1, 1, 1), 1, 2, 3, 0, 2, 3, 1, 0, 3, 1, 2, 0);
+        turned.agenda(Check.order(0, 3, 2, 1));
+        Check.due("the agenda 0 3 2 1 leaves 1", turned.winner(11), 1);
+        keeps(turned, 11, 4, 2);
+        keeps(new BallotDesk(), 0, 4, BallotDesk.NONE);
     }
 
     /** breaker: what witness() is due to tell, NONE where the property is kept. */
@@ -571,25 +603,20 @@ public final class PromiseTest {
         for (int k = 0; k < 3; k++) {
             Check.due("circle(" + k + ")", desk.circle(k), k);
         }
-        BallotDesk back = new BallotDesk();
-        back.ballot(Check.order(0, 3, 2, 1), 1);
-        back.ballot(Check.order(0, 2, 1, 3), 1);
-        back.ballot(Check.order(0, 1, 3, 2), 1);
+        BallotDesk back = desk(4, of(1, 1, 1), 0, 3, 2, 1, 0, 2, 1, 3, 0, 1, 3, 2);
         Check.due("circle(0) of 1 3 2", back.circle(0), 1);
         Check.due("circle(1) of 1 3 2", back.circle(1), 3);
         Check.due("circle(2) of 1 3 2", back.circle(2), 2);
         for (int k = 0; k < 3; k++) {
             Check.due("no circle(" + k + ")", spoiled().circle(k), BallotDesk.NONE);
         }
-        for (int k : new int[] {-1, 3, Integer.MIN_VALUE, Integer.MAX_VALUE}) {
+        for (int k : andExtremes(-1, 3)) {
             Check.refused("circle(" + k + ")", NO_ELEMENT, () -> desk.circle(k));
         }
     }
 
     private static void clones() {
-        BallotDesk desk = new BallotDesk();
-        desk.ballot(Check.order(0, 1, 2, 3), 5);
-        desk.ballot(Check.order(3, 1, 0, 2), 4);
+        BallotDesk desk = desk(4, of(5, 4), 0, 1, 2, 3, 3, 1, 0, 2);
         Check.due("0 and 1", desk.clones(Check.set(0, 1)), true);
         Check.due("1 and 2", desk.clones(Check.set(1, 2)), false);
         Check.due("0, 1 and 2", desk.clones(Check.set(0, 1, 2)), true);
@@ -597,7 +624,7 @@ public final class PromiseTest {
         Check.due("all", desk.clones(15), true);
         desk.amount(1, 0);
         Check.due("1 and 2, the other type without voters", desk.clones(Check.set(1, 2)), true);
-        for (int wrong : new int[] {0, 1, 8, 16, 17, 19, 128, -1, Integer.MIN_VALUE, Integer.MIN_VALUE + 3, Integer.MAX_VALUE}) {
+        for (int wrong : andExtremes(0, 1, 8, 16, 17, 19, 128, -1, Integer.MIN_VALUE + 3)) {
             Check.refused("clones(" + wrong + ")", BAD_ARGUMENT, () -> desk.clones(wrong));
         }
         Check.due("without voters", new BallotDesk().clones(5), true);
@@ -608,9 +635,7 @@ public final class PromiseTest {
         Check.due("count(0)", desk.count(0), 3);
         Check.due("count(1)", desk.count(1), 3);
         Check.due("count(2)", desk.count(2), 9);
-        Check.refused("count(-1)", BAD_ARGUMENT, () -> desk.count(-1));
-        Check.refused("count(3)", BAD_ARGUMENT, () -> desk.count(3));
-        for (int what : EXTREMES) {
+        for (int what : andExtremes(-1, 3)) {
             Check.refused("count(" + what + ")", BAD_ARGUMENT, () -> desk.count(what));
         }
     }
