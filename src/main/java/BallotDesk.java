@@ -39,6 +39,8 @@ public final class BallotDesk {
     private static final int MOST_TYPES = 20;
     private static final int MOST_VOTERS = 100000;
     private static final int MOST_WEIGHT = 1000;
+    /** Every voter against every pair, with the one voter more who may be tried. */
+    private static final int MOST_DISAGREEMENT = MOST_PAIRS * (MOST_TYPES * MOST_VOTERS + 1);
     private static final int CIRCLE_LENGTH = 3;
 
     private final Poll poll;
@@ -50,8 +52,8 @@ public final class BallotDesk {
     public BallotDesk() {
         poll = new Poll();
         poll.open(CANDIDATES_AT_FIRST);
-        rules = new Rules();
-        whatIf = new WhatIf(rules);
+        whatIf = new WhatIf();
+        rules = whatIf.rules;
         changedOrder = NONE;
         witnessed = NONE;
     }
@@ -181,6 +183,7 @@ public final class BallotDesk {
             case JOINING_KEEPS:
                 witnessed = whatIf.typeThatHarmsByJoining(poll, rule);
                 break;
+            case LEAVING_KEEPS:
             default:
                 witnessed = whatIf.loserThatHarmsByLeaving(poll, rule);
                 break;
@@ -656,7 +659,9 @@ public final class BallotDesk {
         }
 
         private void countLeads(Poll poll, int set) {
-            Arrays.fill(leads, 0);
+            for (int candidate = 0; candidate < poll.size; candidate++) {
+                leads[candidate] = 0;
+            }
             for (int type = 0; type < poll.types; type++) {
                 int rest = poll.orders[type];
                 for (int place = 0; place < poll.size; place++) {
@@ -814,7 +819,7 @@ public final class BallotDesk {
             }
             int everyone = poll.everyone();
             for (int set = 1; set <= everyone; set++) {
-                int best = Integer.MAX_VALUE;
+                int best = MOST_DISAGREEMENT;
                 for (int candidate = 0; candidate < poll.size; candidate++) {
                     int rest = set & ~(1 << candidate);
                     if (rest != set) {
@@ -925,14 +930,11 @@ public final class BallotDesk {
 
     /** Asks the rules about other ballots; these are held apart, so that the true ones never change. */
     private static final class WhatIf {
-        private final Rules rules;
+        /** Their tables serve the true ballots too: nothing in them outlasts a question. */
+        final Rules rules = new Rules();
         private final Poll trial = new Poll();
         private final Orders orders = new Orders();
         int placeReached;
-
-        WhatIf(Rules asked) {
-            rules = asked;
-        }
 
         int betterOrder(Poll poll, int rule, int type, int movers) {
             int own = poll.orders[type];
